@@ -20,7 +20,8 @@ public final class StepOwed {
     private static final int MOST_OPEN = 5;
     private static final int MOST_PEOPLE = 4;
     private static final int MOST_DEBTS = MOST_PEOPLE - 1;
-    private static final int MOST_CELLS = 64;
+    private static final int LEAST_SIDE = 2, GREATEST_SIDE = 8;
+    private static final int MOST_CELLS = GREATEST_SIDE * GREATEST_SIDE;
     private static final int MOST_TRACKS = 6;
     private static final int MOST_BOOK = 8;
     private static final int MOST_TRACE = 20;
@@ -32,6 +33,7 @@ public final class StepOwed {
     private static final int FARTHEST = 60;
     private static final int FARTHEST_SIT = 30;
     private static final int WAYS = 4;
+    private static final int MOST_STEPS = 2;
 
     /** The questions that firstDay can ask of a day. */
     private static final int ASK_MEET = 0, ASK_FREE = 1, ASK_SPOT = 2, ASK_AT = 3;
@@ -81,7 +83,7 @@ public final class StepOwed {
     }
 
     public int valley(int wide, int high) {
-        if (wide < 2 || wide > 8 || high < 2 || high > 8) return BAD;
+        if (!isSide(wide) || !isSide(high)) return BAD;
         if (world.count > 0) return STATE;
         int cells = world.cells();
         world.layOut(wide, high);
@@ -377,6 +379,10 @@ public final class StepOwed {
         return kind >= 0 && kind <= GREATEST_KIND;
     }
 
+    private static boolean isSide(int cells) {
+        return cells >= LEAST_SIDE && cells <= GREATEST_SIDE;
+    }
+
     private static boolean isAhead(int n) {
         return n >= 0 && n <= FARTHEST;
     }
@@ -540,7 +546,6 @@ public final class StepOwed {
 
         void copyFrom(Law other) {
             clauses = other.clauses;
-            size = other.size;
             System.arraycopy(other.words, 0, words, 0, MOST_CLAUSES);
             System.arraycopy(other.amounts, 0, amounts, 0, MOST_CLAUSES);
             System.arraycopy(other.starts, 0, starts, 0, MOST_CLAUSES);
@@ -791,7 +796,7 @@ public final class StepOwed {
 
         /** The place in the row of what is owed to the other, or -1. */
         int placeOfDebt(int other) {
-            for (int k = 0; isDebt(k); k++) {
+            for (int k = 0; k < MOST_DEBTS && isDebt(k); k++) {
                 if (creditors[k] == other) return k;
             }
             return -1;
@@ -799,7 +804,7 @@ public final class StepOwed {
 
         int owesTogether() {
             int together = 0;
-            for (int k = 0; isDebt(k); k++) {
+            for (int k = 0; k < MOST_DEBTS && isDebt(k); k++) {
                 together += sums[k];
             }
             return together;
@@ -837,7 +842,7 @@ public final class StepOwed {
 
         private void dropDebt(int place) {
             if (!isDebt(place)) return;
-            for (int k = place + 1; isDebt(k); k++) {
+            for (int k = place + 1; k < MOST_DEBTS && isDebt(k); k++) {
                 creditors[k - 1] = creditors[k];
                 sums[k - 1] = sums[k];
             }
@@ -860,7 +865,7 @@ public final class StepOwed {
 
         boolean owesAs(Person other) {
             if (debts != other.debts) return false;
-            for (int k = 0; isDebt(k); k++) {
+            for (int k = 0; k < MOST_DEBTS && isDebt(k); k++) {
                 if (creditors[k] != other.creditors[k] || sums[k] != other.sums[k]) return false;
             }
             return true;
@@ -874,9 +879,9 @@ public final class StepOwed {
 
         /** The place of the debt to whom only so many are ahead by their numbers, or -1. */
         private int placeOfRank(int rank) {
-            for (int k = 0; isDebt(k); k++) {
+            for (int k = 0; k < MOST_DEBTS && isDebt(k); k++) {
                 int smaller = 0;
-                for (int other = 0; isDebt(other); other++) {
+                for (int other = 0; other < MOST_DEBTS && isDebt(other); other++) {
                     if (creditors[other] < creditors[k]) smaller++;
                 }
                 if (smaller == rank) return k;
@@ -953,7 +958,7 @@ public final class StepOwed {
 
         /** Whether it is the home of somebody, or somebody is there. */
         boolean isTaken(int cell) {
-            for (int i = 0; i < count; i++) {
+            for (int i = 0; i < count && i < MOST_PEOPLE; i++) {
                 if (people[i].home == cell || people[i].at == cell) return true;
             }
             return false;
@@ -993,14 +998,14 @@ public final class StepOwed {
         }
 
         boolean areAllAtOneCell() {
-            for (int i = 1; i < count; i++) {
+            for (int i = 1; i < count && i < MOST_PEOPLE; i++) {
                 if (people[i].at != people[0].at) return false;
             }
             return true;
         }
 
         boolean isAs(World other, boolean alsoMoney) {
-            for (int i = 0; i < count; i++) {
+            for (int i = 0; i < count && i < MOST_PEOPLE; i++) {
                 Person one = people[i];
                 Person was = other.people[i];
                 if (one.at != was.at) return false;
@@ -1011,7 +1016,7 @@ public final class StepOwed {
 
         int pursesTogether() {
             int together = 0;
-            for (int i = 0; i < count; i++) {
+            for (int i = 0; i < count && i < MOST_PEOPLE; i++) {
                 together += people[i].purse;
             }
             return together;
@@ -1019,7 +1024,7 @@ public final class StepOwed {
 
         int owedTo(int creditor) {
             int together = 0;
-            for (int i = 0; i < count; i++) {
+            for (int i = 0; i < count && i < MOST_PEOPLE; i++) {
                 int place = people[i].placeOfDebt(creditor);
                 if (place >= 0) together += people[i].sumAt(place);
             }
@@ -1054,7 +1059,7 @@ public final class StepOwed {
         }
 
         private int firstDebtorsCell(Person one) {
-            for (int i = 0; i < count; i++) {
+            for (int i = 0; i < count && i < MOST_PEOPLE; i++) {
                 if (people[i].placeOfDebt(one.number) >= 0) return people[i].at;
             }
             return NEVER;
@@ -1067,17 +1072,17 @@ public final class StepOwed {
         }
 
         void goOneDay() {
-            for (int i = 0; i < count; i++) {
+            for (int i = 0; i < count && i < MOST_PEOPLE; i++) {
                 Person one = people[i];
                 one.earned = earnsOf(one);
                 one.next = cellAfter(one, stepsOf(one), aimOf(one));
                 one.stays = false;
             }
             keepCrossingApart();
-            for (int i = 0; i < count; i++) {
+            for (int i = 0; i < count && i < MOST_PEOPLE; i++) {
                 if (!people[i].stays) people[i].at = people[i].next;
             }
-            for (int i = 0; i < count; i++) {
+            for (int i = 0; i < count && i < MOST_PEOPLE; i++) {
                 people[i].take(people[i].earned);
                 payDebts(people[i]);
             }
@@ -1086,7 +1091,7 @@ public final class StepOwed {
 
         /** All pairs are looked at by where the steps alone would lead, so none hangs on another. */
         private void keepCrossingApart() {
-            for (int j = 1; j < count; j++) {
+            for (int j = 1; j < count && j < MOST_PEOPLE; j++) {
                 for (int i = 0; i < j; i++) {
                     Person one = people[i];
                     Person other = people[j];
@@ -1106,7 +1111,7 @@ public final class StepOwed {
 
         private int cellAfter(Person one, int steps, int aim) {
             int cell = one.at;
-            for (int k = 0; k < steps && k < 2; k++) {
+            for (int k = 0; k < steps && k < MOST_STEPS; k++) {
                 cell = one.kind.keepsRow(one)
                     ? beside(cell, one.ways[today & 3])
                     : stepToward(cell, aim, one.kind.takesShorterSide());

@@ -11,6 +11,7 @@ final class LawsTest {
         tests();
         clauses();
         daysAndDebts();
+        manyLongLaws();
         check.end();
     }
 
@@ -241,6 +242,21 @@ final class LawsTest {
         check.due("words among one another: earns", x.of(1, 8), 6);
         check.due("words among one another: aim", x.of(1, 6), 13);
         check.due("words among one another: steps", x.of(1, 7), 1);
+    }
+
+    /** What one law has taken of the room is free for the next one. */
+    private static void manyLongLaws() {
+        StepOwed x = one();
+        for (int k = 0; k < 5; k++) {
+            check.due("a long fault", Check.law(x, "rest " + "x=9|".repeat(22) + "p=0;"), -10 - 97);
+            check.due("a long law", Check.law(x, "earn " + k + " " + "x=9|".repeat(22) + "p=0"), k);
+            check.due("it holds", x.of(0, 8), k);
+            check.due("for no other", x.of(1, 8), 0);
+        }
+        StepOwed y = one();
+        Check.law(y, "earn 1 x=3;earn 2 x=9;earn 4 x=3;rest x=9;earn 8 x=3;come 1;earn 16 x=9;rest x=8;earn 32 x=3");
+        check.due("each clause by its own E", y.of(0, 8), 45);
+        check.due("no rest by an E of earn", y.of(0, 7), 1);
     }
 
     private static void daysAndDebts() {
