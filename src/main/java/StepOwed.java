@@ -924,7 +924,9 @@ public final class StepOwed {
             high = other.high;
             count = other.count;
             today = other.today;
-            System.arraycopy(other.walls, 0, walls, 0, MOST_CELLS);
+            for (int cell = 0; cell < MOST_CELLS; cell++) {
+                walls[cell] = other.walls[cell];
+            }
             for (int i = 0; i < MOST_PEOPLE; i++) {
                 people[i].copyFrom(other.people[i]);
             }
