@@ -78,6 +78,12 @@ final class EdgesAheadTest {
             check.due("nothing, " + n, x.sit(2, n, 1), 0);
         }
         check.due("for 31", x.sit(1, 31, 1), StepOwed.BAD);
+        x.owe(2, 0, 5);
+        x.owe(2, 1, 7);
+        check.due("what another one owes it behind another debt, too", x.sit(1, 0, 1), 106);
+        check.due("and then", x.sit(1, 30, 1), 76);
+        x.owe(2, 1, 0);
+        x.owe(2, 0, 0);
         x.wall(0, true);
         x.wall(1, true);
         check.due("the least without a WALL", x.sit(2, 5, 0), 2);

@@ -5,11 +5,13 @@ final class EdgesTest {
     public static void main(String[] args) {
         sizes();
         cells();
+        cellsOnTheWay();
         sides();
         peopleAtTheirEdges();
         sums();
         tapeAndLaws();
         withoutLaw();
+        anyRest();
         numbersOfTests();
         earnsTogether();
         purses();
@@ -58,6 +60,22 @@ final class EdgesTest {
                 Check.law(x, "earn 1 x=" + cell % size[0] + "&y=" + cell / size[0]);
                 check.due("x and y of " + cell + ", " + size[0] + " wide", x.of(0, 8), 1);
             }
+        }
+    }
+
+    /** x and y of the cell where one IS, and not of its HOME. */
+    private static void cellsOnTheWay() {
+        StepOwed x = new StepOwed();
+        x.person(0, 0, 0, 0);
+        x.person(0, 0, 35, 0);
+        x.owe(0, 1, 1);
+        Check.law(x, "earn 1 x=0;earn 2 x=1;earn 4 x=2;earn 10 y=0;earn 20 y=1;earn 40 y=2");
+        int[] due = {11, 12, 22, 24, 44};
+        int[] at = {0, 1, 7, 8, 14};
+        for (int n = 0; n < due.length; n++) {
+            check.due("where on " + n, x.of(0, 3), at[n]);
+            check.due("EARNS on " + n, x.of(0, 8), due[n]);
+            x.day();
         }
     }
 
@@ -182,6 +200,24 @@ final class EdgesTest {
         check.due("EARNS by " + e, x.of(2, 8), so ? 1 : 0);
     }
 
+    /** It goes none, if any E of rest holds: the first, one between, the last. */
+    private static void anyRest() {
+        for (int rests = 1; rests <= 8; rests++) {
+            for (int k = 0; k <= rests; k++) {
+                StepOwed x = new StepOwed();
+                x.person(1, 0, 0, 0);
+                String text = "rest p=9;".repeat(k) + "rest p=0;" + "rest p=9;".repeat(rests - k);
+                check.due("law", Check.law(x, text.substring(0, text.length() - 1)), 0);
+                check.due("the one behind " + k + " of " + rests, x.of(0, 7), 0);
+                StepOwed y = new StepOwed();
+                y.person(1, 0, 0, 0);
+                text = "rest p=9;".repeat(rests) + "come 1";
+                check.due("law", Check.law(y, text), 0);
+                check.due("none of " + rests, y.of(0, 7), 2);
+            }
+        }
+    }
+
     /** All of a test's numbers have one or two digits: 0 .. 99. */
     private static void numbersOfTests() {
         for (char fact : "pkxydo".toCharArray()) {
@@ -235,6 +271,17 @@ final class EdgesTest {
             check.due("all is paid even so", x.on(0, 1, 1), 0);
             Check.law(x, "earn 99 p=1");
             check.due("earned by one who has " + purse, x.on(1, 1, 1), Math.min(purse + 198, 999));
+        }
+        for (int purse = 898; purse <= 902; purse++) {
+            // A creditor of a smaller number has earned, and paid, when it is paid.
+            StepOwed x = new StepOwed();
+            x.person(0, 0, 0, purse);
+            x.person(0, 0, 0, 120);
+            x.owe(1, 0, 99);
+            check.due("paid to 0 who has " + purse, x.on(0, 1, 1), Math.min(purse + 99, 999));
+            check.due("of 1 is left", x.on(1, 1, 1), 21);
+            x.owe(0, 1, 1);
+            check.due("paid to 0 who has " + purse + " and pays 1", x.on(0, 1, 1), Math.min(purse + 98, 999));
         }
         for (int purse = 0; purse < 3; purse++) {
             StepOwed x = new StepOwed();
