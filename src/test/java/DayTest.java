@@ -188,20 +188,13 @@ final class DayTest {
         }
     }
 
-    private static StepOwed line(int... homes) {
-        StepOwed x = new StepOwed();
-        x.valley(8, 2);
-        for (int home : homes) x.person(0, 0, home, 0);
-        return x;
-    }
-
     private static void places(String what, StepOwed x, int... cells) {
         x.day();
         for (int i = 0; i < cells.length; i++) check.due(what + ": " + i, x.of(i, 3), cells[i]);
     }
 
     private static void crossings() {
-        StepOwed x = line(0, 1);
+        StepOwed x = Scenes.line(0, 1);
         x.owe(0, 1, 9);
         x.owe(1, 0, 9);
         places("the greater number stays", x, 1, 1);
@@ -211,11 +204,11 @@ final class DayTest {
         x.person(0, 0, 7, 0);
         x.owe(1, 2, 9);
         places("who stayed goes on another day", x, 1, 2);
-        StepOwed y = line(1, 0);
+        StepOwed y = Scenes.line(1, 0);
         y.owe(0, 1, 9);
         y.owe(1, 0, 9);
         places("from the other side", y, 0, 0);
-        StepOwed z = line(0, 2);
+        StepOwed z = Scenes.line(0, 2);
         z.owe(0, 1, 9);
         z.owe(1, 0, 9);
         places("to the cell between", z, 1, 1);
@@ -226,12 +219,12 @@ final class DayTest {
         s.owe(1, 0, 9);
         places("two steps each", s, 2, 2);
         // One follows the other, which goes on: no crossing.
-        StepOwed f = line(0, 1, 5);
+        StepOwed f = Scenes.line(0, 1, 5);
         f.owe(0, 1, 9);
         f.owe(1, 2, 9);
         places("one follows", f, 1, 2, 5);
         // 1 stays, and so 2 comes where it is.
-        StepOwed g = line(1, 2, 3);
+        StepOwed g = Scenes.line(1, 2, 3);
         g.owe(0, 1, 9);
         g.owe(1, 0, 9);
         g.owe(2, 1, 9);
@@ -239,25 +232,25 @@ final class DayTest {
     }
 
     private static void threeCross() {
-        StepOwed x = line(0, 1, 1);
+        StepOwed x = Scenes.line(0, 1, 1);
         x.owe(0, 1, 9);
         x.owe(1, 0, 9);
         x.owe(2, 0, 9);
         places("both who would cross stay", x, 1, 1, 1);
         // By the steps alone 1 and 2 would change places, too, though 1 then stays.
-        StepOwed y = line(0, 1, 0);
+        StepOwed y = Scenes.line(0, 1, 0);
         y.owe(0, 1, 9);
         y.owe(1, 0, 9);
         y.owe(2, 1, 9);
         places("by the steps alone", y, 1, 1, 0);
-        StepOwed z = line(0, 1, 1, 0);
+        StepOwed z = Scenes.line(0, 1, 1, 0);
         z.owe(1, 0, 9);
         z.owe(3, 1, 9);
         places("numbers 1 and 3", z, 0, 0, 1, 0);
     }
 
     private static void earning() {
-        StepOwed x = line(0, 7);
+        StepOwed x = Scenes.line(0, 7);
         x.owe(0, 1, 99);
         Check.law(x, "earn 10 x=0;earn 5 d=0;earn 7 o=1;earn 1 x=1;earn 50 d=1");
         x.day();
@@ -266,7 +259,7 @@ final class DayTest {
         check.due("of 1", x.of(1, 4), 5);
         x.day();
         check.due("the next day", x.of(0, 4), 22 + 7 + 1 + 50);
-        StepOwed y = line(0, 0);
+        StepOwed y = Scenes.line(0, 0);
         y.owe(0, 1, 99);
         y.owe(0, 1, 0);
         Check.law(y, "earn 99 p=0");
@@ -319,13 +312,13 @@ final class DayTest {
     }
 
     private static void chains() {
-        StepOwed x = line(5, 5, 5);
+        StepOwed x = Scenes.line(5, 5, 5);
         x.owe(0, 1, 10);
         x.owe(1, 2, 10);
         Check.law(x, "earn 10 p=0&d=0");
         x.day();
         check.due("by numbers: all on one day", x.of(2, 4), 10);
-        StepOwed y = line(5, 5, 5);
+        StepOwed y = Scenes.line(5, 5, 5);
         y.owe(2, 1, 10);
         y.owe(1, 0, 10);
         Check.law(y, "earn 10 p=2&d=0");
@@ -351,7 +344,7 @@ final class DayTest {
     }
 
     private static void resting() {
-        StepOwed x = line(0, 1, 1);
+        StepOwed x = Scenes.line(0, 1, 1);
         x.owe(0, 1, 9);
         x.owe(1, 2, 9);
         Check.law(x, "rest d<2&p=0;earn 3 p<2");

@@ -18,16 +18,8 @@ final class DaysToComeTest {
 
     private static final int[] WRONG = {-1, 61, 62, 1000, Integer.MAX_VALUE, Integer.MIN_VALUE};
 
-    /** WALKERS on a line of 8 (and one more below it), with a purse each. */
-    private static StepOwed line(int... homesAndPurses) {
-        StepOwed x = new StepOwed();
-        x.valley(8, 2);
-        for (int k = 0; k < homesAndPurses.length; k += 2) x.person(0, 0, homesAndPurses[k], homesAndPurses[k + 1]);
-        return x;
-    }
-
     private static StepOwed two() {
-        StepOwed x = line(0, 10, 5, 0);
+        StepOwed x = Scenes.lineOfPurses(0, 10, 5, 0);
         x.owe(0, 1, 9);
         return x;
     }
@@ -51,7 +43,7 @@ final class DaysToComeTest {
             check.refused(x, "NONE ahead of BAD", () -> x.on(2, n, 0), StepOwed.NONE);
             check.refused(x, "NONE ahead of BAD", () -> x.on(0, n, 3), StepOwed.NONE);
         }
-        StepOwed y = line(0, 0, 1, 0, 2, 0, 3, 0);
+        StepOwed y = Scenes.lineOfPurses(0, 0, 1, 0, 2, 0, 3, 0);
         y.owe(0, 1, 10);
         y.owe(0, 2, 20);
         y.owe(0, 3, 99);
@@ -66,7 +58,7 @@ final class DaysToComeTest {
         check.due("from now on", x.meet(0, 1), 4);
         for (int n = 0; n < 4; n++) x.day();
         check.due("now", x.meet(0, 1), 0);
-        StepOwed y = line(0, 0, 5, 0);
+        StepOwed y = Scenes.lineOfPurses(0, 0, 5, 0);
         check.due("never", y.meet(0, 1), -5);
         check.refused(y, "meet(0, 2)", () -> y.meet(0, 2), StepOwed.NONE);
         check.refused(y, "meet(2, 0)", () -> y.meet(2, 0), StepOwed.NONE);
@@ -102,7 +94,7 @@ final class DaysToComeTest {
         check.due("0 goes toward it, and then after it", x.spot(), 3);
         x.owe(1, 2, 5);
         check.due("all come between", x.spot(), 1);
-        StepOwed y = line(0, 0, 4, 0, 7, 0, 7, 0);
+        StepOwed y = Scenes.lineOfPurses(0, 0, 4, 0, 7, 0, 7, 0);
         y.owe(0, 3, 1);
         y.owe(1, 2, 1);
         check.due("all four", y.spot(), 7);
@@ -171,7 +163,7 @@ final class DaysToComeTest {
     }
 
     private static void whom() {
-        StepOwed x = line(0, 0, 3, 0, 7, 0);
+        StepOwed x = Scenes.lineOfPurses(0, 0, 3, 0, 7, 0);
         check.due("of several the least", x.whom(0, 2, 0), 1);
         check.due("when", x.whom(0, 2, 1), 2);
         check.due("only toward 2", x.whom(0, 5, 0), 2);
@@ -202,20 +194,20 @@ final class DaysToComeTest {
         check.due("the one by whom it is there first", y.whom(0, 9, 0), 2);
         check.due("of that", y.whom(0, 9, 1), 2);
         // 99 are owed: with 98 it would not be paid, with 100 it would go on.
-        StepOwed z = line(3, 99, 2, 0, 7, 0);
+        StepOwed z = Scenes.lineOfPurses(3, 99, 2, 0, 7, 0);
         z.owe(0, 2, 5);
         check.due("99 are paid", z.whom(0, 5, 1), 4);
-        StepOwed v = line(3, 104, 2, 0, 5, 0, 7, 0);
+        StepOwed v = Scenes.lineOfPurses(3, 104, 2, 0, 5, 0, 7, 0);
         v.owe(0, 2, 5);
         v.owe(0, 3, 7);
         check.due("its own debts are behind, with their sums", v.whom(0, 7, 1), 6);
-        StepOwed w = line(3, 98, 2, 0, 7, 0);
+        StepOwed w = Scenes.lineOfPurses(3, 98, 2, 0, 7, 0);
         w.owe(0, 2, 5);
         check.due("98 do not do", w.whom(0, 5, 1), -5);
     }
 
     private static void order() {
-        StepOwed x = line(3, 20, 0, 0, 7, 0);
+        StepOwed x = Scenes.lineOfPurses(3, 20, 0, 0, 7, 0);
         check.due("no debts: when", x.order(0, -1), 0);
         for (int k = 0; k < 4; k++) check.refused(x, "no debts: " + k, () -> x.order(0, 0), -5);
         x.owe(0, 2, 5);
@@ -236,13 +228,13 @@ final class DaysToComeTest {
         x.owe(0, 1, 16);
         check.due("by none: when", x.order(0, -1), -5);
         check.due("by none: whom", x.order(0, 0), -5);
-        StepOwed y = line(3, 20, 0, 0, 6, 0);
+        StepOwed y = Scenes.lineOfPurses(3, 20, 0, 0, 6, 0);
         y.owe(0, 2, 5);
         y.owe(0, 1, 5);
         check.due("alike: when", y.order(0, -1), 9);
         check.due("alike: the first as a row", y.order(0, 0), 1);
         // 1 at 5, 2 at 0, 3 at 7, from 4: 1, 3, 2 takes 1 and 2 and 7.
-        StepOwed z = line(4, 99, 5, 0, 0, 0, 7, 0);
+        StepOwed z = Scenes.lineOfPurses(4, 99, 5, 0, 0, 0, 7, 0);
         z.owe(0, 3, 5);
         z.owe(0, 2, 6);
         z.owe(0, 1, 7);
@@ -254,7 +246,7 @@ final class DaysToComeTest {
             {0, 6, 7, 6}, {0, 7, 6, 5}, {5, 0, 7, 6}, {3, 2, 0, 4}, {3, 0, 2, 4}, {2, 3, 0, 4}, {2, 0, 3, 4},
             {0, 3, 2, 4}, {0, 2, 3, 4}, {4, 4, 4, 4}, {7, 0, 7, 3}, {0, 7, 0, 4}};
         for (int[] h : homes) {
-            StepOwed w = line(h[3], 99, h[0], 0, h[1], 0, h[2], 0);
+            StepOwed w = Scenes.lineOfPurses(h[3], 99, h[0], 0, h[1], 0, h[2], 0);
             w.owe(0, 1, 1);
             w.owe(0, 2, 1);
             w.owe(0, 3, 1);
@@ -304,7 +296,7 @@ final class DaysToComeTest {
         x.day();
         check.refused(x, "a home that is left", () -> x.late(0, 3), -1003);
         check.refused(x, "somebody is there", () -> x.late(0, 2), -1003);
-        StepOwed y = line(0, 5, 2, 0);
+        StepOwed y = Scenes.lineOfPurses(0, 5, 2, 0);
         y.owe(0, 1, 5);
         check.due("never with it", y.late(0, 1), -1001);
         check.due("no later", y.late(0, 9), 0);
@@ -325,7 +317,7 @@ final class DaysToComeTest {
     }
 
     private static void sit() {
-        StepOwed x = line(3, 10, 7, 0);
+        StepOwed x = Scenes.lineOfPurses(3, 10, 7, 0);
         x.owe(0, 1, 10);
         check.due("n 0: where", x.sit(1, 0, 0), 0);
         check.due("n 0: how much", x.sit(1, 0, 1), 10);
@@ -352,7 +344,7 @@ final class DaysToComeTest {
         check.refused(x, "NONE ahead of BAD", () -> x.sit(2, 31, 0), StepOwed.NONE);
         check.refused(x, "NONE ahead of BAD", () -> x.sit(0, 31, 2), StepOwed.NONE);
         // What two owe it, together; its own debts do not count.
-        StepOwed y = line(0, 50, 4, 0, 7, 50);
+        StepOwed y = Scenes.lineOfPurses(0, 50, 4, 0, 7, 50);
         y.owe(0, 1, 10);
         y.owe(2, 1, 7);
         y.owe(1, 0, 99);
@@ -368,7 +360,7 @@ final class DaysToComeTest {
     private static void lastDays() {
         for (int wait = 58; wait <= 62; wait++) {
             // It pays one a day from day 1 on.
-            StepOwed x = line(0, 0, 0, 0);
+            StepOwed x = Scenes.lineOfPurses(0, 0, 0, 0);
             x.owe(0, 1, wait);
             Check.law(x, "earn 1 p=0");
             check.due("free after " + wait, x.free(0), wait <= 60 ? wait : -5);
@@ -405,7 +397,7 @@ final class DaysToComeTest {
 
     /** 0 pays 1 at 3 all of 99, and goes on to 2 at 7. */
     private static void onAfter(int wait) {
-        StepOwed x = line(0, 99 - wait, 3, 0, 7, 0);
+        StepOwed x = Scenes.lineOfPurses(0, 99 - wait, 3, 0, 7, 0);
         x.owe(0, 2, 99);
         Check.law(x, "earn 1 p=0");
         check.due("whom after " + wait, x.whom(0, 7, 0), wait + 4 <= 60 ? 1 : -5);

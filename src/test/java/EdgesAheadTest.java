@@ -27,13 +27,6 @@ final class EdgesAheadTest {
         check.end();
     }
 
-    private static StepOwed line(int... homes) {
-        StepOwed x = new StepOwed();
-        x.valley(8, 2);
-        for (int home : homes) x.person(0, 0, home, 0);
-        return x;
-    }
-
     /** TOLD 0 goes from cell to cell by its ROW, and never pays 1. */
     private static StepOwed told(int home, int... row) {
         StepOwed x = new StepOwed();
@@ -68,7 +61,7 @@ final class EdgesAheadTest {
 
     /** SIT for n 0 .. 30: 0 rests at 9 and pays one a day to who is there. */
     private static void sitting() {
-        StepOwed x = line(9, 14, 3);
+        StepOwed x = Scenes.line(9, 14, 3);
         x.owe(0, 1, 99);
         Check.law(x, "earn 1 p=0;rest p=0");
         for (int n = 0; n <= 30; n++) {
@@ -114,7 +107,7 @@ final class EdgesAheadTest {
 
     /** Of several the least: of PEOPLE, cells, orders, rows. */
     private static void leastOfSeveral() {
-        StepOwed x = line(3, 7, 7, 7);
+        StepOwed x = Scenes.line(3, 7, 7, 7);
         check.due("whom: of three alike", x.whom(0, 5, 0), 1);
         x.owe(0, 1, 1);
         check.due("whom: of two alike", x.whom(0, 5, 0), 2);
@@ -122,12 +115,12 @@ final class EdgesAheadTest {
         check.due("whom: the only one", x.whom(0, 5, 0), 3);
         check.due("whom: now", x.whom(0, 3, 1), 0);
         check.due("whom: where it is", x.whom(0, 3, 0), 3);
-        StepOwed y = line(3, 3, 3, 3);
+        StepOwed y = Scenes.line(3, 3, 3, 3);
         for (int k = 3; k > 0; k--) y.owe(0, k, 2);
         Check.law(y, "earn 2 p=0");
         check.due("order: when", y.order(0, -1), 3);
         for (int k = 0; k < 4; k++) check.due("order: the first as a row, " + k, y.order(0, k), k < 3 ? k + 1 : -5);
-        StepOwed z = line(3);
+        StepOwed z = Scenes.line(3);
         z.book(0, 60, 4);
         z.book(0, 0, 5);
         check.due("looked: the first", z.looked(), 0);
@@ -135,7 +128,7 @@ final class EdgesAheadTest {
 
     /** Of one who is never FREE, or has no DEBTS. */
     private static void neverFree() {
-        StepOwed x = line(3, 5, 6, 7);
+        StepOwed x = Scenes.line(3, 5, 6, 7);
         check.due("no debts: when", x.order(0, -1), 0);
         for (int k = 0; k < 4; k++) check.due("no debts: " + k, x.order(0, k), -5);
         check.due("no debts: free", x.free(0), 0);
@@ -177,7 +170,7 @@ final class EdgesAheadTest {
 
     private static void sixTracks() {
         for (int wrong = 0; wrong <= 6; wrong++) {
-            StepOwed x = line(0, 7, 15);
+            StepOwed x = Scenes.line(0, 7, 15);
             for (int k = 1; k <= 6; k++) check.due("track " + k, x.track(k == wrong ? 15 : k), k);
             check.due("the seventh", x.track(7), StepOwed.FULL);
             check.due("six", x.count(2), 6);
@@ -187,10 +180,10 @@ final class EdgesAheadTest {
             check.due("so gone by any", x.owed(0), 6);
             check.due("of 2", x.owed(2), 3);
         }
-        StepOwed y = line(0);
+        StepOwed y = Scenes.line(0);
         y.track(0);
         check.due("no others", y.owed(0), 0);
-        StepOwed z = line(3, 3, 2);
+        StepOwed z = Scenes.line(3, 3, 2);
         z.track(3);
         check.due("who stands there stays", z.owed(0), 2);
         check.due("of the other one", z.owed(1), 1);
@@ -198,7 +191,7 @@ final class EdgesAheadTest {
 
     private static void eightRows() {
         for (int wrong = 0; wrong <= 8; wrong++) {
-            StepOwed x = line(0, 7, 3, 12);
+            StepOwed x = Scenes.line(0, 7, 3, 12);
             for (int k = 0; k < 8; k++) {
                 int person = k % 4;
                 int cell = x.of(person, 3) + (k == wrong ? 1 : 0);
@@ -233,7 +226,7 @@ final class EdgesAheadTest {
 
     /** BOOK and TRACKS tell of DAYS from now: of the day on which is asked. */
     private static void fromTheDayOfAsking() {
-        StepOwed x = line(0, 7);
+        StepOwed x = Scenes.line(0, 7);
         x.owe(0, 1, 9);
         x.book(0, 3, 3);
         x.track(1);
@@ -254,7 +247,7 @@ final class EdgesAheadTest {
 
     /** ODDS: on some of DAYS 0 .. n, and not only on the last. */
     private static void someOfTheDays() {
-        StepOwed x = line(0, 3, 7);
+        StepOwed x = Scenes.line(0, 3, 7);
         for (int n = 0; n <= 60; n++) {
             // To 1 it comes to stay, by 1 it goes toward 2.
             check.due("met by " + n, x.odds(0, 1, n, 0), n < 3 ? 0 : 1);
@@ -262,7 +255,7 @@ final class EdgesAheadTest {
             check.due("2 by " + n, x.odds(0, 2, n, 0), n < 7 ? 0 : 1);
             check.due("of two, " + n, x.odds(0, 2, n, 1), n < 7 ? 1 : 2);
         }
-        StepOwed y = line(4, 4, 0, 7);
+        StepOwed y = Scenes.line(4, 4, 0, 7);
         check.due("on DAY 0", y.odds(0, 1, 0, 0), 1);
         check.due("surely", y.odds(0, 1, 0, 1), 1);
         check.due("0 in lowest terms", y.odds(0, 2, 3, 0), 0);

@@ -1,6 +1,6 @@
-/** Objects that several tests begin with, in a valley of six by six cells. */
+/** Objects that several tests begin with. */
 final class Scenes {
-    /** In all of them: a wall, the home of 0, where 0 IS in a crowd (its home it has left). */
+    /** In all of six by six cells: a wall, the home of 0, where 0 IS in a crowd (its home it has left). */
     static final int WALL = 2, HOME = 7, AT = 8;
 
     static StepOwed nobody() {
@@ -57,6 +57,21 @@ final class Scenes {
         x.book(-1, 0, 0);
         for (int k = 0; k < 8; k++) x.book(k % 4, 7 * k, x.on(k % 4, 7 * k, 0));
         for (int k = 0; k < 100; k++) x.feed('c');
+        return x;
+    }
+
+    /** WALKERS on a line of 8 (and one more below it). */
+    static StepOwed line(int... homes) {
+        StepOwed x = new StepOwed();
+        x.valley(8, 2);
+        for (int home : homes) x.person(0, 0, home, 0);
+        return x;
+    }
+
+    /** The same: a home and a purse of each. */
+    static StepOwed lineOfPurses(int... homesAndPurses) {
+        StepOwed x = line();
+        for (int k = 0; k < homesAndPurses.length; k += 2) x.person(0, 0, homesAndPurses[k], homesAndPurses[k + 1]);
         return x;
     }
 }

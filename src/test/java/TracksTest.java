@@ -13,13 +13,6 @@ final class TracksTest {
         check.end();
     }
 
-    private static StepOwed line(int... homesAndPurses) {
-        StepOwed x = new StepOwed();
-        x.valley(8, 2);
-        for (int k = 0; k < homesAndPurses.length; k += 2) x.person(0, 0, homesAndPurses[k], homesAndPurses[k + 1]);
-        return x;
-    }
-
     private static void track() {
         StepOwed x = new StepOwed();
         check.due("none at first", x.count(2), 0);
@@ -37,7 +30,7 @@ final class TracksTest {
     }
 
     private static void owed() {
-        StepOwed x = line(3, 0, 0, 0, 7, 0, 5, 0);
+        StepOwed x = Scenes.lineOfPurses(3, 0, 0, 0, 7, 0, 5, 0);
         check.due("no tracks: all others", x.owed(0), 14);
         check.due("no tracks: all others of 2", x.owed(2), 11);
         x.track(4);
@@ -85,7 +78,7 @@ final class TracksTest {
         check.due("a cell that is no more", v.owed(0), 0);
         check.due("is told still", v.count(2), 1);
         // The other's own debts count.
-        StepOwed u = line(0, 0, 1, 0, 3, 0);
+        StepOwed u = Scenes.lineOfPurses(0, 0, 1, 0, 3, 0);
         u.owe(1, 2, 9);
         for (int cell : new int[] {1, 2, 3, 3}) u.track(cell);
         check.due("after one who goes", u.owed(0), 6);
@@ -97,7 +90,7 @@ final class TracksTest {
     }
 
     private static void odds() {
-        StepOwed x = line(3, 0, 0, 0, 7, 0, 5, 0);
+        StepOwed x = Scenes.lineOfPurses(3, 0, 0, 0, 7, 0, 5, 0);
         fraction("to meet 3 by 1", x, 0, 3, 1, 0, 1);
         fraction("to meet 3 by 2", x, 0, 3, 2, 2, 3);
         fraction("to meet 1 by 2", x, 0, 1, 2, 0, 1);
@@ -109,19 +102,19 @@ final class TracksTest {
         x.owe(0, 3, 9);
         fraction("only 1 is left", x, 0, 1, 60, 1, 1);
         fraction("only 1 is left", x, 0, 1, 2, 0, 1);
-        StepOwed w = line(0, 0, 3, 0, 7, 0);
+        StepOwed w = Scenes.lineOfPurses(0, 0, 3, 0, 7, 0);
         fraction("of a greater number: toward 0 or 2", w, 1, 0, 60, 1, 2);
         fraction("of a greater number, the other", w, 2, 1, 60, 1, 1);
-        StepOwed y = line(3, 0, 3, 0, 0, 0);
+        StepOwed y = Scenes.lineOfPurses(3, 0, 3, 0, 0, 0);
         fraction("on day 0", y, 0, 1, 0, 1, 1);
-        StepOwed z = line(3, 99, 2, 0, 6, 0);
+        StepOwed z = Scenes.lineOfPurses(3, 99, 2, 0, 6, 0);
         z.owe(0, 2, 5);
         fraction("it pays 99 and goes on", z, 0, 2, 5, 1, 1);
         fraction("not sooner", z, 0, 2, 4, 0, 1);
     }
 
     private static void refusedOdds() {
-        StepOwed x = line(3, 0, 0, 0, 7, 0);
+        StepOwed x = Scenes.lineOfPurses(3, 0, 0, 0, 7, 0);
         long no = Long.MIN_VALUE;
         check.due("NO", StepOwed.NO, no);
         check.refused(x, "one", () -> x.odds(3, 0, 0, 0), no);
@@ -137,7 +130,7 @@ final class TracksTest {
         x.owe(0, 2, 1);
         check.refused(x, "it owes all others", () -> x.odds(0, 1, 0, 0), no);
         check.refused(x, "it owes all others", () -> x.odds(0, 1, 0, 1), no);
-        StepOwed y = line(3, 0);
+        StepOwed y = Scenes.lineOfPurses(3, 0);
         check.due("alone", y.odds(0, 0, 0, 0), no);
     }
 
@@ -169,9 +162,9 @@ final class TracksTest {
         check.refused(x, "n -1", () -> x.mean(-1, 0), no);
         check.refused(x, "part 2", () -> x.mean(0, 2), no);
         check.refused(x, "part -1", () -> x.mean(0, -1), no);
-        mean("nothing", line(0, 0, 1, 0, 2, 0), 5, 0, 1);
-        mean("most", line(0, 999, 1, 999, 2, 999, 3, 999), 0, 999, 1);
-        StepOwed y = line(0, 99, 0, 990);
+        mean("nothing", Scenes.lineOfPurses(0, 0, 1, 0, 2, 0), 5, 0, 1);
+        mean("most", Scenes.lineOfPurses(0, 999, 1, 999, 2, 999, 3, 999), 0, 999, 1);
+        StepOwed y = Scenes.lineOfPurses(0, 99, 0, 990);
         y.owe(0, 1, 99);
         mean("what is above 999 is lost", y, 1, 999, 2);
     }
