@@ -11,6 +11,7 @@ final class EdgesTest {
         sums();
         tapeAndLaws();
         withoutLaw();
+        newestLaw();
         anyRest();
         numbersOfTests();
         earnsTogether();
@@ -198,6 +199,26 @@ final class EdgesTest {
     private static void earns(StepOwed x, String e, boolean so) {
         check.due("law of " + e, Check.law(x, "earn 1 " + e) >= 0);
         check.due("EARNS by " + e, x.of(2, 8), so ? 1 : 0);
+    }
+
+    /** The newest law holds, and nothing of a longer one ahead of it, nor of a text with a FAULT. */
+    private static void newestLaw() {
+        for (String end : new String[] {"", ";"}) {
+            for (String more : new String[] {";earn 5 p<9", ";rest p<9", ";come 1", ";earn 1 p<9;rest p<9;come 3"}) {
+                for (String law : new String[] {"come 2", "earn 0 p=9", "rest p>9"}) {
+                    StepOwed x = new StepOwed();
+                    x.person(0, 0, 0, 0);
+                    x.person(0, 0, 5, 0);
+                    x.owe(1, 0, 9);
+                    Check.law(x, law + more + end);
+                    check.due("law of " + law, Check.law(x, law) >= 0);
+                    String behind = " by " + law + " behind " + law + more + end;
+                    check.due("EARNS" + behind, x.of(0, 8), 0);
+                    check.due("STEPS" + behind, x.of(0, 7), 1);
+                    check.due("AIM" + behind, x.of(0, 6), -5);
+                }
+            }
+        }
     }
 
     /** It goes none, if any E of rest holds: the first, one between, the last. */
